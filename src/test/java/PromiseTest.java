@@ -424,6 +424,12 @@ public final class PromiseTest {
         due("16: treelike() of a flat triangle", x::treelike, 1);
         x.set(0, 1, 9);
         due("16: treelike() of a broken triangle", x::treelike, 0);
+        x.set(0, 1, 4);
+        x.set(0, 2, 9);
+        due("16: treelike() broken at 0, 2", x::treelike, 0);
+        x.set(0, 2, 4);
+        x.set(1, 2, 9);
+        due("16: treelike() broken at 1, 2", x::treelike, 0);
         for (int i = 0; i < 7; i++) {
             for (int j = 0; j < i; j++) {
                 SplitTree y = even(7, 9);
