@@ -499,12 +499,11 @@ public final class BoundaryTest {
         due("points() after it", none::points, 1);
     }
 
-    /** 205 answers, asked twice over. */
+    /** Asked twice over, the second time beside an object that nothing has been asked yet. */
     private static void askingChangesNothing() {
         SplitTree x = tree(7);
-        SplitTree like = tree(7);
-        dueSame("asked once", x, like);
-        dueSame("asked again", x, like);
+        dueSame("asked once", x, tree(7));
+        dueSame("asked again", x, tree(7));
         due("smooth() after it", x::smooth, 0);
     }
 
