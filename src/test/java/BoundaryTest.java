@@ -3,8 +3,8 @@ import java.util.function.Supplier;
 import java.util.function.ToIntFunction;
 
 /**
- * A test of its own for each sentence of the document that names a boundary case. The list in
- * main gives the sentence beside its test; no object here is asked more than 512 times.
+ * A test of its own for each sentence of the document that names a boundary case. The lists at
+ * the end give the sentence beside its test; no object here is called more than 512 times.
  */
 public final class BoundaryTest {
     private static final int BAD_ARG = -1000;
@@ -38,7 +38,7 @@ public final class BoundaryTest {
         }
     }
 
-    /** For calls whose answer is looked at elsewhere: here it must be none of a refusal. */
+    /** For calls whose answer is looked at elsewhere: here it must only be no refusal. */
     private static void dueAnswered(String what, IntSupplier call) {
         try {
             if (call.getAsInt() == BAD_ARG) {
@@ -144,7 +144,8 @@ public final class BoundaryTest {
         due(what + ", weight()", x::weight, like.weight());
     }
 
-    private static void dueAndUnchanged(String what, Supplier<SplitTree> made, ToIntFunction<SplitTree> call, int want) {
+    private static void dueAndUnchanged(String what, Supplier<SplitTree> made, ToIntFunction<SplitTree> call,
+            int want) {
         SplitTree x = made.get();
         due(what, () -> call.applyAsInt(x), want);
         dueSame("after " + what, x, made.get());
