@@ -1,3 +1,4 @@
+import java.lang.reflect.Field;
 import java.util.function.IntSupplier;
 import java.util.function.Supplier;
 import java.util.function.ToIntFunction;
@@ -798,8 +799,8 @@ public final class BoundaryTest {
 
     /**
      * Half a tree distance of 120 is 60 and stays so. More than 120 cannot be reached: the indices of the
-     * edges between i and j are together at most 2 d(i, j). So what is looked at beyond the end is that
-     * nothing is above 60, over all ways to put five points at 30 or 60 from each other.
+     * edges between i and j are together at most 2 d(i, j). So what is looked at here is that nothing is
+     * above 60, over all ways to put five points at 30 or 60 from each other.
      */
     private static void smoothAtMost60() {
         for (int n = 2; n <= 7; n++) {
@@ -820,6 +821,33 @@ public final class BoundaryTest {
                     due("distance(" + a + ", " + b + ") in way " + far, () -> x.distance(a, b), want);
                 }
             }
+        }
+    }
+
+    /**
+     * No run of calls makes a tree distance above 120, so the index of the one split of two points is put
+     * there by hand. This is the one test that knows how the state is held.
+     */
+    private static void smoothIs60WhereHalfIsMore() {
+        int[] indices = {118, 119, 120, 121, 122, 123, 240, 1000};
+        int[] halves = {59, 59, 60, 60, 60, 60, 60, 60};
+        for (int n = 0; n < indices.length; n++) {
+            int half = halves[n];
+            SplitTree x = even(2, 5);
+            heldIndices(x)[1] = indices[n];
+            due("smooth() with a tree distance of " + indices[n], x::smooth, 1);
+            due("distance(0, 1) after it", () -> x.distance(0, 1), half);
+            due("treeDistance(0, 1) after it", () -> x.treeDistance(0, 1), 2 * half);
+        }
+    }
+
+    private static int[] heldIndices(SplitTree x) {
+        try {
+            Field held = SplitTree.class.getDeclaredField("indices");
+            held.setAccessible(true);
+            return (int[]) held.get(x);
+        } catch (ReflectiveOperationException thrown) {
+            throw new IllegalStateException(thrown);
         }
     }
 
@@ -1145,6 +1173,7 @@ public final class BoundaryTest {
         test("6: half the tree distances, rounded down", BoundaryTest::smoothRoundsDown);
         test("6: all at the same time", BoundaryTest::smoothIsAllAtTheSameTime);
         test("6: (60 where that is more)", BoundaryTest::smoothAtMost60);
+        test("6: (60 where that is more), beyond what distances can make", BoundaryTest::smoothIs60WhereHalfIsMore);
         test("6: Answers how many pairs of points changed.", BoundaryTest::smoothCountsThePairsChanged);
     }
 

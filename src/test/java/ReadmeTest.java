@@ -20,7 +20,8 @@ import java.util.regex.Pattern;
  */
 public final class ReadmeTest {
     private static final Pattern MADE = Pattern.compile("SplitTree (\\w+) = new SplitTree\\(\\);");
-    private static final Pattern CALL = Pattern.compile("(\\w+)\\.(\\w+)\\(([-0-9, ]*)\\);\\s*// (-?\\d+|[A-Z_]+)(: .*)?");
+    private static final Pattern CALL =
+        Pattern.compile("(\\w+)\\.(\\w+)\\(([-0-9, ]*)\\);\\s*// (-?\\d+|[A-Z_]+)(: .*)?");
     private static final Map<String, Integer> CODES = Map.of("BAD_ARG", -1000, "FULL", -1001, "NONE", -1002);
 
     private static final Map<String, SplitTree> objects = new HashMap<>();
@@ -48,7 +49,8 @@ public final class ReadmeTest {
 
     private static Method methodOf(String name, int parameters) {
         for (Method m : SplitTree.class.getDeclaredMethods()) {
-            if (m.getName().equals(name) && m.getParameterCount() == parameters && Modifier.isPublic(m.getModifiers())) {
+            boolean open = Modifier.isPublic(m.getModifiers());
+            if (open && m.getName().equals(name) && m.getParameterCount() == parameters) {
                 return m;
             }
         }

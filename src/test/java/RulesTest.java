@@ -10,7 +10,9 @@ import java.util.Arrays;
 import java.util.Deque;
 import java.util.HashSet;
 import java.util.List;
+import java.util.Map;
 import java.util.Set;
+import java.util.TreeMap;
 import java.util.TreeSet;
 import java.util.regex.Matcher;
 import java.util.regex.Pattern;
@@ -86,6 +88,7 @@ public final class RulesTest {
                     "rule 5: no constant of int or long: " + f);
             } else {
                 held++;
+                hold(!f.getType().isArray() || Modifier.isFinal(kind), "rule 4: an array that could be assigned: " + f);
             }
             if (Modifier.isPublic(kind)) {
                 open.add(f.getName());
@@ -97,8 +100,11 @@ public final class RulesTest {
         hold(held <= 40, "rule 10: more than forty fields");
     }
 
-    private static List<String> tokensOf(String text) {
-        String bare = text.replaceAll("(?s)/\\*.*?\\*/", " ").replaceAll("//[^\n]*", " ");
+    private static String withoutComments(String text) {
+        return text.replaceAll("(?s)/\\*.*?\\*/", " ").replaceAll("//[^\n]*", " ");
+    }
+
+    private static List<String> tokensOf(String bare) {
         Matcher m = Pattern.compile("[A-Za-z_][A-Za-z_0-9]*|[0-9]+|->|::|\\S").matcher(bare);
         return m.results().map(r -> r.group()).toList();
     }
@@ -116,6 +122,88 @@ public final class RulesTest {
         for (String token : tokens) {
             depth += token.equals("{") ? 1 : token.equals("}") ? -1 : 0;
             hold(!token.equals("new") || depth == 1, "rule 4: something is made inside a method");
+        }
+        for (int i = 0; i < tokens.size(); i++) {
+            if (tokens.get(i).equals("new")) {
+                String made = String.join(" ", tokens.subList(i, Math.min(i + 6, tokens.size())));
+                boolean constant = made.matches("new \\w+ \\[ ([1-9][0-9]*|[A-Z_]+) \\] ;");
+                hold(constant, "rule 4: a length that is no constant: " + made);
+            }
+        }
+    }
+
+    /** The text from the brace at this place to the one that closes it. */
+    private static String block(String text, int brace) {
+        int depth = 0;
+        for (int at = brace; at < text.length(); at++) {
+            depth += text.charAt(at) == '{' ? 1 : text.charAt(at) == '}' ? -1 : 0;
+            if (depth == 0) {
+                return text.substring(brace, at + 1);
+            }
+        }
+        return text.substring(brace);
+    }
+
+    /** The bodies of all methods and of the constructor, by name. */
+    private static Map<String, String> bodiesOf(String bare) {
+        Map<String, String> bodies = new TreeMap<>();
+        Matcher head = Pattern.compile("(?:public|private)[^;={}()]*\\b(\\w+)\\s*\\([^(){}]*\\)\\s*\\{").matcher(bare);
+        while (head.find()) {
+            String before = bodies.put(head.group(1), block(bare, head.end() - 1));
+            hold(before == null, "two methods have the name " + head.group(1));
+        }
+        int declared = SplitTree.class.getDeclaredMethods().length + SplitTree.class.getDeclaredConstructors().length;
+        hold(bodies.size() == declared, "not all methods were found in the text: " + bodies.keySet());
+        return bodies;
+    }
+
+    private static void theDepthOfCalls(Map<String, String> bodies) {
+        Map<String, Integer> depths = new TreeMap<>();
+        // A depth that is still growing after as many rounds as there are methods is a circle.
+        for (int round = 0; round <= bodies.size(); round++) {
+            for (String name : bodies.keySet()) {
+                depths.put(name, 1 + deepestCalled(bodies.get(name), depths));
+            }
+        }
+        for (String name : bodies.keySet()) {
+            hold(depths.get(name) <= bodies.size(), "rule 8: recursion through " + name);
+            hold(depths.get(name) <= 6, "rule 10: calls more than six deep: " + name);
+        }
+    }
+
+    private static int deepestCalled(String body, Map<String, Integer> depths) {
+        return Pattern.compile("(\\w+)\\s*\\(").matcher(body).results()
+            .mapToInt(call -> depths.getOrDefault(call.group(1), 0)).max().orElse(0);
+    }
+
+    private static void theBodies(Map<String, String> bodies) {
+        for (Map.Entry<String, String> method : bodies.entrySet()) {
+            String name = method.getKey();
+            String body = method.getValue();
+            hold(body.lines().count() <= 60, "rule 10: a long method: " + name);
+            hold(!Pattern.compile("\\]\\s*\\w+\\s*[=;,)]|\\[\\s*\\]").matcher(body).find(),
+                "rule 4: a local variable names an array: " + name);
+            hold(!Pattern.compile("[/%](?!\\s*[1-9])").matcher(body).find(),
+                "rule 7: a divisor that is no plain number above 0: " + name);
+            theLoops(name, body);
+        }
+    }
+
+    /** The rule leaves more ways to write a loop; this class needs only the one that is easiest to see through. */
+    private static void theLoops(String name, String body) {
+        hold(!Pattern.compile("\\b(while|do)\\b").matcher(body).find(), "rule 8: a loop without a counter: " + name);
+        Matcher loop = Pattern.compile("\\bfor\\b").matcher(body);
+        Pattern counted = Pattern.compile("for \\(int (\\w+) = \\w+; \\1 <=? (\\w+); \\1(?:\\+\\+| \\+= [1-9])\\) \\{");
+        while (loop.find()) {
+            Matcher head = counted.matcher(body).region(loop.start(), body.length());
+            boolean counts = head.lookingAt();
+            hold(counts, "rule 8: a loop that does not count up to a bound: " + name);
+            String inner = counts ? block(body, head.end() - 1) : "";
+            for (String fixed : counts ? List.of(head.group(1), head.group(2)) : List.<String>of()) {
+                boolean set = Pattern.compile("(\\+\\+|--)\\s*" + fixed + "\\b|\\b" + fixed
+                    + "\\s*(\\+\\+|--|[-+*/%&|^]=|<<=|>>>?=|=(?!=))").matcher(inner).find();
+                hold(!set, "rule 8: a loop changes its own counter or bound: " + name);
+            }
         }
     }
 
@@ -135,12 +223,16 @@ public final class RulesTest {
 
     public static void main(String[] args) throws IOException {
         String source = System.getProperty("splittree.source", "src/main/java/SplitTree.java");
-        List<String> tokens = tokensOf(Files.readString(Path.of(source)));
+        String bare = withoutComments(Files.readString(Path.of(source)));
+        List<String> tokens = tokensOf(bare);
+        Map<String, String> bodies = bodiesOf(bare);
         theFace();
         theFields();
         theWords(tokens);
         theArrays(tokens);
         theCalls(tokens);
+        theDepthOfCalls(bodies);
+        theBodies(bodies);
         System.out.println(wrong == 0 ? "all rules looked at are kept" : wrong + " rules are broken");
         if (wrong != 0) {
             System.exit(1);
